@@ -793,12 +793,12 @@ public final class TideQuarter {
             }
         }
 
-        private static int guests(int side, int hour) {
+        private static int innGain(int side, int hour) {
             int lit = sun(side, hour);
             return lit != 0 && hour >= 12 ? lit + 1 : lit;
         }
 
-        private int grist(int side) {
+        private int millGain(int side) {
             return side == blowsFrom ? 2 : 0;
         }
 
@@ -807,15 +807,15 @@ public final class TideQuarter {
                 case HOUSE:
                     return sun(side, hour);
                 case MILL:
-                    return grist(side);
+                    return millGain(side);
                 case SHED:
                     return 1 - sun(side, hour);
                 case INN:
-                    return guests(side, hour);
+                    return innGain(side, hour);
                 case SAILS:
-                    return force * grist(side);
+                    return force * millGain(side);
                 case DORM:
-                    return hour < 9 ? 3 * guests(side, hour) : 0;
+                    return hour < 9 ? 3 * innGain(side, hour) : 0;
                 default:
                     return 0;
             }

@@ -453,6 +453,13 @@ public final class PromiseTest {
         due("best(2, 23, 10)", x.best(2, 23, 10), 3);
         due("best(0, 0, 10), all alike", x.best(0, 0, 10), 0);
         due("best(2, 20, 3), between", x.best(2, 20, 3), 0);
+        TideQuarter y = at(17);
+        y.sets(1, ALL);
+        y.house(3, 3);
+        due("best(0, 24, 24), 24 12 0 from east on", y.best(0, 24, 24), 1);
+        due("best(0, 24, 36), 24 36 24", y.best(0, 24, 36), 2);
+        due("best(0, 36, 28), 12 44 32", y.best(0, 36, 28), 2);
+        due("best(0, 24, 60), 24 44 56", y.best(0, 24, 60), 3);
         due("houseOf(0, 1)", x.houseOf(0, 1), 0);
         due("best(3, 0, 1)", x.best(3, 0, 1), BEYOND);
         due("best(-1, 0, 1)", x.best(-1, 0, 1), BEYOND);
@@ -465,6 +472,7 @@ public final class PromiseTest {
     private static void sunniest() {
         TideQuarter x = at(18);
         due("sunniest(0, 1)", x.sunniest(0, 1), NONE);
+        due("sunniest(0, 960)", x.sunniest(0, 960), NONE);
         due("sunniest(0, 0)", x.sunniest(0, 0), BEYOND);
         due("sunniest(0, 961)", x.sunniest(0, 961), BEYOND);
         due("sunniest(-1, 1)", x.sunniest(-1, 1), BEYOND);
@@ -477,6 +485,8 @@ public final class PromiseTest {
         due("sunniest(0, 1), sheds", x.sunniest(0, 1), 2);
         x.house(1, 0);
         due("sunniest(0, 1), a mill", x.sunniest(0, 1), 4);
+        x.house(2, 0);
+        due("sunniest(0, 1), less behind", x.sunniest(0, 1), 4);
         due("sunniest(23, 1), no wind", x.sunniest(23, 1), 2);
         due("sunniest(0, 0)", x.sunniest(0, 0), BEYOND);
     }
@@ -500,6 +510,16 @@ public final class PromiseTest {
         due("days(0, 1, 5, 9999)", x.days(0, 1, 5, 9999), 5);
         due("days(0, 1, 4, 9999)", x.days(0, 1, 4, 9999), 4);
         due("days(0, 0, 5, 9999)", x.days(0, 0, 5, 9999), 21);
+        // tide 30 ends at 12017 in the second tick of hour 4, tide 0 of another begins there
+        x.tides(0, 14);
+        due("days(0, 1, 4, 9999)", x.days(0, 1, 4, 9999), 5);
+        due("days(0, 0, 3, 9999)", x.days(0, 0, 3, 9999), 22);
+        due("days(0, 0, 4, 9999)", x.days(0, 0, 4, 9999), 21);
+        x.tides(0, 19);
+        due("days(0, 0, 4, 9999), three of its ticks", x.days(0, 0, 4, 9999), 22);
+        x.tides(0, 17);
+        due("days(0, 0, 4, 9999), one of its ticks", x.days(0, 0, 4, 9999), 22);
+        due("days(0, 1, 5, 9999), its first tick too", x.days(0, 1, 5, 9999), 5);
         due("days(1, 0, 0, 0)", x.days(1, 0, 0, 0), BEYOND);
         due("days(-1, 0, 0, 0)", x.days(-1, 0, 0, 0), BEYOND);
         due("days(0, 4, 0, 0)", x.days(0, 4, 0, 0), BEYOND);
@@ -531,6 +551,33 @@ public final class PromiseTest {
         due("exchange(0, 961)", x.exchange(0, 961), BEYOND);
         due("exchange(-1, 1)", x.exchange(-1, 1), BEYOND);
         due("exchange(10000, 1)", x.exchange(10000, 1), BEYOND);
+        x = at(20);
+        x.sets(1, ALL);
+        x.house(0, 0);
+        x.house(1, 1);
+        x.wind(3, 1);
+        due("exchange(24, 1), one more, the other as now", x.exchange(24, 1), 1);
+        x.turn(0, 1);
+        x.turn(1, 0);
+        due("exchange(24, 1), one less, the other as now", x.exchange(24, 1), NONE);
+        x.wind(1, 1);
+        due("exchange(24, 1), two more, one less", x.exchange(24, 1), NONE);
+        x.turn(0, 0);
+        x.turn(1, 1);
+        due("exchange(24, 1), one more, two less", x.exchange(24, 1), NONE);
+        x.wind(0, 1);
+        due("exchange(24, 1), both more", x.exchange(24, 1), 1);
+        x = at(20);
+        x.sets(1, ALL);
+        x.wind(2, 1);
+        for (int h = 0; h < 7; h++) {
+            x.house(2, 0);
+        }
+        x.house(1, 1);
+        due("exchange(24, 1), sheds don't mind, none has wind", x.exchange(24, 1), NONE);
+        x.turn(6, 2);
+        due("exchange(24, 1), the seventh has the mill's wind", x.exchange(24, 2), NONE);
+        due("exchange(0, 1), by night", x.exchange(0, 1), 67);
         // together more, but the inn less: a house in the north, an inn in the west
         TideQuarter y = at(20);
         y.sets(1, ALL);
@@ -648,6 +695,17 @@ public final class PromiseTest {
         due("entry(3, 0) what -1", x.entry(3, -1), BEYOND);
         due("entry(4, 0)", x.entry(4, 0), BEYOND);
         due("entry(-1, 0)", x.entry(-1, 0), BEYOND);
+        x.clear();
+        x.ship(1, 15, 5);
+        due("entry, a calm just as long", x.entry(0, 0), 15);
+        x.ship(1, 15, 6);
+        due("entry, a calm too short", x.entry(1, 0), 23);
+        x.tides(1, 43);
+        x.ship(1, 15, 40);
+        due("entry, calms just as long", x.entry(2, 0), 23);
+        x.tides(1, 42);
+        due("entry, no calm so long", x.entry(2, 0), NONE);
+        x.tides(1, 50);
         // all tides fail but 30, which ends at 1523
         x.clear();
         x.sets(1, ALL);
@@ -669,6 +727,20 @@ public final class PromiseTest {
         due("order(5)", x.order(5), NONE);
         due("order(6)", x.order(6), BEYOND);
         due("order(-2)", x.order(-2), BEYOND);
+        x.tides(0, 5);
+        x.ship(0, 0, 5);
+        due("order(-1), goes in at once", x.order(-1), 0);
+        x.tides(0, 4);
+        due("order(-1), an earlier flood", x.order(-1), 7);
+        x.tides(2, 5);
+        due("order(-1), a longer flood", x.order(-1), 9);
+        x.sets(0, 1);
+        due("order(-1), no lag", x.order(-1), 9);
+        x.tides(3, 1);
+        due("order(-1), a lag", x.order(-1), 0);
+        x.sets(0, 0);
+        due("order(-1), no longer late", x.order(-1), 9);
+        x.clear();
         // one front, no turning: the short one goes ahead
         x.sets(1, ALL);
         x.ship(0, 0, 40);
@@ -704,8 +776,24 @@ public final class PromiseTest {
         due("order(-1), too short", x.order(-1), 3 * 960 + 7);
         x.clear();
         due("order(-1), cleared", x.order(-1), 0);
-        // a ship that comes later may go in ahead in the order
         x.sets(1, ALL);
+        x.ship(0, 0, 4);
+        x.ship(0, 4, 4);
+        x.ship(0, 8, 4);
+        due("order(-1), one goes as another comes", x.order(-1), 0);
+        x.ship(0, 7, 1);
+        due("order(-1), and one in the last tick of another", x.order(-1), 2);
+        due("order(3)", x.order(3), 2);
+        x.clear();
+        for (int i = 0; i < 6; i++) {
+            x.ship(i % 2, 0, 40);
+            x.quay(i, 2);
+        }
+        due("order(-1), six never", x.order(-1), 6 * 960);
+        due("order(5), six never", x.order(5), 5);
+        due("waits(5, 1), six never", x.waits(5, 1), -1);
+        x.clear();
+        // a ship that comes later may go in ahead in the order
         x.ship(0, 0, 30);
         x.ship(0, 5, 5);
         x.ship(0, 8, 5);
@@ -860,6 +948,14 @@ public final class PromiseTest {
         text("floods 20", -1);
         text("floo 20", -1);
         text("floodperiod 20", -1);
+        text("floodz 20", -1);
+        text("flooda 20", -1);
+        text("zflood 20", -1);
+        text("flood{20", -6);
+        text("flood`20", -6);
+        text("flood/20", -6);
+        text("flood:20", -6);
+        text("flood 9 99", -9);
         text("flood 10000", -7);
         text("flood 4294967296", -7);
         text("flood 18446744073709551616", -7);

@@ -1019,12 +1019,12 @@ public final class TideQuarter {
         /** Goes on to the next token; at the end its place is how many bytes there are. */
         void step() {
             from = till;
-            while (typeAt(from) == BLANK) {
+            while (from < used && typeAt(from) == BLANK) {
                 from++;
             }
             type = typeAt(from);
             till = type == END ? from : from + 1;
-            while ((type == WORD || type == NUMBER) && typeAt(till) == type) {
+            while (till < used && (type == WORD || type == NUMBER) && typeAt(till) == type) {
                 till++;
             }
         }

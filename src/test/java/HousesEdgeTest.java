@@ -206,6 +206,14 @@ public final class HousesEdgeTest {
             sum(y, 0, tick, 1, y.gain(0, tick));
             sum(y, 1, tick, 1, y.gain(1, tick));
         }
+        for (int hour = 0; hour < 24; hour++) {
+            y.tides(0, 4 * hour);
+            y.tides(2, 4);
+            sum(y, 1, 4 * hour, 4, 4);
+            sum(y, 0, 4 * hour, 4, 0);
+        }
+        y.tides(0, 20);
+        y.tides(2, 3);
         sum(y, 0, 0, 20, 40);
         sum(y, 0, 0, 21, 40);
         sum(y, 0, 0, 19, 38);
@@ -268,6 +276,17 @@ public final class HousesEdgeTest {
         eight.turn(7, 2);
         Checks.due("sunniest, one has less and less far ahead", eight.sunniest(9999, 960), 7);
         Checks.due("sunniest, at hour 9 alike", eight.sunniest(36, 1), 3);
+        // the sums of one night hour and of a morning's: the first, the second or the third has most
+        int[][] three = {
+            {SAILS, 0, SHED, 0, HOUSE, 1, 0, 0}, {SHED, 0, SAILS, 0, HOUSE, 1, 1, 1}, {HOUSE, 1, SHED, 0, SAILS, 0, 2, 2},
+            {HOUSE, 1, HOUSE, 0, SHED, 1, 2, 0}, {HOUSE, 0, DORM, 1, SHED, 0, 2, 1}, {MILL, 0, MILL, 1, INN, 1, 0, 0},
+            {MILL, 1, MILL, 0, INN, 1, 1, 1}, {SHED, 1, HOUSE, 1, MILL, 1, 0, 1},
+        };
+        for (int[] t : three) {
+            TideQuarter z = calm(t[0], t[1], t[2], t[3], t[4], t[5]);
+            Checks.due("sunniest by night", z.sunniest(0, 4), t[6]);
+            Checks.due("sunniest in the morning", z.sunniest(24, 4), t[7]);
+        }
     }
 
     private static void daysTold() {
@@ -325,6 +344,10 @@ public final class HousesEdgeTest {
         Checks.says(20, "The two HOUSES, as 10 times the lesser and the greater, who by exchanging FRONTS have most more SUM together than now, neither of them less than now; of several the least. BEYOND. NONE: no two have more.");
         Checks.refused("exchange(0, 1), no houses", Checks::bare, z -> z.exchange(0, 1), Checks.NONE);
         exchange(calm(MILL, 1), 0, 960, Checks.NONE);
+        exchange(calm(HOUSE, 0, DORM, 1), 36, 1, 1);
+        exchange(calm(HOUSE, 0, DORM, 1), 36, 12, 1);
+        exchange(calm(HOUSE, 0, DORM, 1), 35, 2, Checks.NONE);
+        exchange(calm(HOUSE, 0, DORM, 1), 48, 48, Checks.NONE);
         exchange(calm(MILL, 1, SHED, 0), 0, 1, 1);
         exchange(calm(MILL, 1, SHED, 0), 23, 1, 1);
         exchange(calm(MILL, 1, SHED, 0), 24, 1, Checks.NONE);

@@ -29,21 +29,10 @@ public final class PromiseTest {
         return new TideQuarter();
     }
 
-    private static void tell(TideQuarter x, String text) {
-        for (int from = 0; from < text.length(); from += 4) {
-            int till = Math.min(from + 4, text.length());
-            int bytes = 0;
-            for (int i = from; i < till; i++) {
-                bytes = bytes << 8 | text.charAt(i);
-            }
-            x.feed(bytes, till - from);
-        }
-    }
-
     /** The answer of island() to a text on a new object. */
     private static void text(String text, long want) {
         TideQuarter x = new TideQuarter();
-        tell(x, text);
+        Checks.tell(x, text);
         due("island() of '" + text + "'", x.island(), want);
         due("count(3) behind '" + text + "'", x.count(3), 0);
     }
@@ -829,7 +818,7 @@ public final class PromiseTest {
         due("waits(0, 1), tides", x.waits(0, 1), 3);
         x.undo();
         due("waits(0, 0), undone", x.waits(0, 0), 10);
-        tell(x, "ship 0 comes 0 stays 1");
+        Checks.tell(x, "ship 0 comes 0 stays 1");
         x.island();
         due("waits(0, 0), told another", x.waits(0, 0), 11);
         x.tides(0, 30);
@@ -900,10 +889,10 @@ public final class PromiseTest {
     private static void wipe() {
         TideQuarter x = at(32);
         due("wipe()", x.wipe(), 0);
-        tell(x, "abc");
+        Checks.tell(x, "abc");
         due("wipe(), three", x.wipe(), 3);
         due("count(3)", x.count(3), 0);
-        tell(x, "mill 2");
+        Checks.tell(x, "mill 2");
         due("island()", x.island(), 1);
         due("wipe(), none again", x.wipe(), 0);
     }
@@ -999,7 +988,7 @@ public final class PromiseTest {
         promise = 33;
         TideQuarter x = new TideQuarter();
         x.house(5, 3);
-        tell(x, "flood 5 length 7;late 1 3;fails 4;halves 0 29;mill 2;ship 3 comes 9 stays 4 quay 1;wind 2 5");
+        Checks.tell(x, "flood 5 length 7;late 1 3;fails 4;halves 0 29;mill 2;ship 3 comes 9 stays 4 quay 1;wind 2 5");
         due("island()", x.island(), 7);
         due("FLOOD", x.tides(0, 6), 5);
         due("PERIOD stays", x.tides(1, 40), 50);
@@ -1017,7 +1006,7 @@ public final class PromiseTest {
         due("QUAY", x.shipOf(0, 3), 1);
         due("SIDE", x.count(4), 2);
         due("FORCE", x.count(2), 5);
-        tell(x, "flood 1 period 33 length 2; late 5; house 0; ship 0 comes 0 stays 1; wind 1 1; inn 4");
+        Checks.tell(x, "flood 1 period 33 length 2; late 5; house 0; ship 0 comes 0 stays 1; wind 1 1; inn 4");
         due("island() with a fault", x.island(), -84);
         due("FLOOD stays", x.tides(0, 7), 6);
         due("PERIOD stays", x.tides(1, 41), 40);
@@ -1028,22 +1017,22 @@ public final class PromiseTest {
         due("SIDE stays", x.count(4), 2);
         due("FORCE stays", x.count(2), 5);
         due("no finding", x.status(-1), 0);
-        tell(x, "flood 3 period 30;late 2;late 7 8");
+        Checks.tell(x, "flood 3 period 30;late 2;late 7 8");
         due("island(), a set told twice", x.island(), 3);
         due("FLOOD", x.tides(0, 7), 3);
         due("PERIOD", x.tides(1, 41), 30);
         due("LENGTH stays", x.tides(2, 2), 2);
         due("LATE, the latest", x.sets(0, 2), 384);
-        tell(x, "ship 0 comes 0 stays 1;ship 0 comes 0 stays 1;ship 0 comes 0 stays 1;ship 0 comes 0 stays 1");
+        Checks.tell(x, "ship 0 comes 0 stays 1;ship 0 comes 0 stays 1;ship 0 comes 0 stays 1;ship 0 comes 0 stays 1");
         due("island()", x.island(), 4);
         due("QUAY, none told", x.shipOf(4, 3), -1);
-        tell(x, "ship 0 comes 0 stays 1; ship 0 comes 0 stays 1");
+        Checks.tell(x, "ship 0 comes 0 stays 1; ship 0 comes 0 stays 1");
         due("island(), a 7th ship", x.island(), -25);
         due("count(1)", x.count(1), 5);
         for (int i = 0; i < 6; i++) {
             x.house(0, 0);
         }
-        tell(x, "dorm 7");
+        Checks.tell(x, "dorm 7");
         due("island(), a 9th house", x.island(), -1);
         due("status(-1)", x.status(-1), 0);
     }
@@ -1241,7 +1230,7 @@ public final class PromiseTest {
         x.quay(0, 1);
         x.sheet(0, 8, 1);
         x.write(0, 0, 5);
-        tell(x, "ab");
+        Checks.tell(x, "ab");
         x.image();
         x.tides(0, 2);
         x.tides(1, 18);
@@ -1257,7 +1246,7 @@ public final class PromiseTest {
         x.ship(0, 0, 1);
         x.ship(0, 0, 1);
         x.write(0, 0, 6);
-        tell(x, "c");
+        Checks.tell(x, "c");
         due("undo(), kept", x.undo(), 1);
         due("undo(), stays", x.undo(), 1);
         due("FLOOD", x.tides(0, 3), 1);
@@ -1299,7 +1288,7 @@ public final class PromiseTest {
         x.house(0, 0);
         x.ship(0, 0, 1);
         x.wind(3, 8);
-        tell(x, "abcd");
+        Checks.tell(x, "abcd");
         int[] want = {2, 1, 8, 4, 3};
         for (int what = 0; what < 5; what++) {
             due("count(" + what + ")", x.count(what), want[what]);

@@ -286,6 +286,12 @@ public final class ShipsEdgeTest {
         }
         order(x, 6 * 960, 0, 1, 2, 3, 4, 5);
         waits(x, 5, NEVER, -1);
+        TideQuarter never = still(0, 0, 1, 1, 0, 0, 1, 2, 0, 0, 1, 3, 0, 0, 1, 1, 0, 0, 1, 2, 0, 0, 1, 3);
+        order(never, 6 * 960, 0, 1, 2, 3, 4, 5);
+        for (int s = 0; s < 6; s++) {
+            waits(never, s, NEVER, -1);
+        }
+        orderAnew();
         Checks.says(27, "THE BEST ORDER: what -1 the sum of WAITS, i (0 to 5) the i-th SHIP. BEYOND. NONE: it has no i-th.");
         order(new TideQuarter(), 0);
         order(of(2, 5, 5, -1), 0, 0);
@@ -300,6 +306,72 @@ public final class ShipsEdgeTest {
         Checks.refused("order(3) of three ships", Checks::mixed, y -> y.order(3), Checks.NONE);
         Checks.refused("order(5) of three ships", Checks::mixed, y -> y.order(5), Checks.NONE);
         Checks.changesNothing("order(-1) of no ships", Checks::bare, y -> y.order(-1), 0);
+    }
+
+    /** Each call that changes what the best order hangs on, between two questions for it. */
+    private static void orderAnew() {
+        TideQuarter x = of(0, 0, 20, -1);
+        order(x, 0, 0);
+        x.tides(0, 19);
+        order(x, 22, 0);
+        x.tides(2, 4);
+        order(x, 23, 0);
+        x.sets(0, 1);
+        order(x, 23, 0);
+        x.tides(3, 1);
+        order(x, 0, 0);
+        x.sets(0, 0);
+        order(x, 23, 0);
+        x.tides(1, 23);
+        order(x, 960, 0);
+        x.tides(1, 24);
+        order(x, 23, 0);
+        x.quay(0, 2);
+        order(x, 23 + 24, 0);
+        x.sets(2, 1);
+        order(x, 23 + 24, 0);
+        x.sets(1, 2);
+        order(x, 23 + 48, 0);
+        x.sets(1, 3);
+        order(x, 23 + 72, 0);
+        x.quay(0, -1);
+        order(x, 0, 0);
+        x.image();
+        x.ship(0, 0, 20);
+        order(x, 20, 0, 1);
+        Checks.tell(x, "ship 0 comes 0 stays 19;fails 0 1 2 3;flood 39");
+        x.island();
+        order(x, 19 + 39, 2, 0, 1);
+        x.undo();
+        order(x, 0, 0);
+        x.clear();
+        order(x, 0);
+        x.ship(0, 5, 40);
+        x.ship(0, 5, 40);
+        order(x, 960, 0, 1);
+        x.clear();
+        order(x, 0);
+        waitsAnew();
+    }
+
+    private static void waitsAnew() {
+        TideQuarter x = of(0, 0, 20, -1);
+        x.image();
+        waits(x, 0, 0, 0);
+        x.tides(0, 19);
+        waits(x, 0, 22, 3);
+        x.sets(1, 1);
+        waits(x, 0, 0, 0);
+        x.quay(0, 1);
+        waits(x, 0, 172, 1);
+        Checks.tell(x, "fails 29");
+        x.island();
+        waits(x, 0, 122, 1);
+        x.undo();
+        waits(x, 0, 0, 0);
+        x.clear();
+        x.ship(1, 0, 1);
+        waits(x, 0, 0, 1);
     }
 
     private static void fast(TideQuarter x, int tick, int want) {

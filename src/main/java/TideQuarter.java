@@ -27,8 +27,8 @@ public final class TideQuarter {
     private boolean hasImage = false;
     private final Tally tally = new Tally();
     private final Harbour harbour = new Harbour();
-    private final Tape tape = new Tape();
-    private final Teller teller = new Teller(tape);
+    private final Teller teller = new Teller();
+    private final Tape tape = teller.tape;
     private final Sheet[] sheets = new Sheet[SHEETS];
     private final int[] found = new int[FINDINGS];
 
@@ -1070,12 +1070,8 @@ public final class TideQuarter {
 
     /** Tells the items of a text to an island; where it stops, the token can't stand there. */
     private static final class Teller {
-        private final Tape tape;
+        final Tape tape = new Tape();
         private int taken = 0;
-
-        Teller(Tape tape) {
-            this.tape = tape;
-        }
 
         /** How many items, or -1 less the place of the fault. */
         int tell(Isle isle) {

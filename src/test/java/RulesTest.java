@@ -48,6 +48,7 @@ public final class RulesTest {
         face();
         classes();
         source();
+        asTheDocumentTells();
         System.out.println(passed + " passed, " + failed + " failed");
         if (failed != 0) {
             System.exit(1);
@@ -138,6 +139,35 @@ public final class RulesTest {
                 due("a method has at most sixty lines: " + line.trim(), endOf(lines, i) - i <= 60);
             }
         }
+    }
+
+    /** The face's lines stand in the program as in the document, in its order, each below its head. */
+    private static void asTheDocumentTells() throws IOException {
+        String program = Files.readString(Path.of(PROGRAM));
+        String document = Files.readString(Path.of("../shared/DOC.md"));
+        int from = document.indexOf("```java");
+        String face = document.substring(from, document.indexOf("```", from + 3));
+        Matcher line = Pattern.compile("(?m)^ +(public [^;]*);$").matcher(face);
+        int place = 0;
+        int lines = 0;
+        while (line.find()) {
+            int at = program.indexOf("\n    " + line.group(1) + " {\n");
+            due(line.group(1) + " stands behind the one ahead of it", at > place);
+            place = at;
+            lines++;
+        }
+        due("a constructor and all calls", lines == 1 + FACE.length);
+        Matcher heads = Pattern.compile("(?m)^Ahead of the calls (.*) the interface says: (---- .*)\\.$").matcher(document);
+        int headed = 0;
+        while (heads.find()) {
+            for (String name : heads.group(1).replace("`", "").split(", ")) {
+                int at = Math.max(program.indexOf("public int " + name + "("), program.indexOf("public long " + name + "("));
+                int head = program.lastIndexOf("    // ---- ", at);
+                due(name + " stands below '" + heads.group(2) + "'", program.startsWith("    // " + heads.group(2) + "\n", head));
+                headed++;
+            }
+        }
+        due("each call has a head", headed == FACE.length);
     }
 
     /** The line that closes what one opens: the first behind it that is as far in. */
